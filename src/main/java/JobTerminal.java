@@ -419,20 +419,28 @@ public final class JobTerminal {
 
     private boolean write(JobProcess writer, int code) {
         Job own = writer.owner;
-        boolean piped = own != null && own.writesToPipe(writer);
-        if (piped ? own.secondHasEnded() : terminal.hangs) {
+        if (own != null && own.writesToPipe(writer)) {
+            return writeToPipe(own, writer, code);
+        }
+        if (terminal.hangs) {
             writer.fail();
             return true;
         }
-        if (piped) {
-            own.pipe.putLast(code);
-        } else if (own != null && own != foregroundJob && terminal.has(Terminal.GUARD)
-                && !writer.shuns(TTOU)) {
+        if (own != null && own != foregroundJob && terminal.has(Terminal.GUARD) && !writer.shuns(TTOU)) {
             own.receive(TTOU);
             return false;
-        } else {
-            terminal.show(code);
         }
+        terminal.show(code);
+        writer.line++;
+        return false;
+    }
+
+    private static boolean writeToPipe(Job own, JobProcess writer, int code) {
+        if (own.secondHasEnded()) {
+            writer.fail();
+            return true;
+        }
+        own.pipe.putLast(code);
         writer.line++;
         return false;
     }

@@ -4,6 +4,7 @@ public final class HangTest {
         typedIsGone();
         foregroundJobs();
         otherJobs();
+        everyStoppedJob();
         hangingTwice();
         readingAndWriting();
         Check.end();
@@ -77,6 +78,18 @@ public final class HangTest {
         Check.same("told", x.report(), 5);
         Check.same("told", x.report(), 11);
         Check.same("told", x.report(), -1);
+    }
+
+    private static void everyStoppedJob() {
+        JobTerminal x = new JobTerminal();
+        for (int job = 0; job < 4; job++) {
+            x.launch(0, 0, true);
+            x.send(job, 6);
+        }
+        x.hang();
+        for (int job = 0; job < 4; job++) {
+            Check.same("job " + job, x.job(job), 3);
+        }
     }
 
     private static void hangingTwice() {

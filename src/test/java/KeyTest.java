@@ -105,6 +105,9 @@ public final class KeyTest {
         Check.same("edit", x.held(0), 0);
         Check.same("shown", x.shown(), 2);
         reads(x, -1, 'a', 'b');
+        Check.type(x, 'c', 4);
+        Check.same("queue behind one character and 4", x.held(1), 1);
+        reads(x, 'c');
     }
 
     private static void newLineAndReturn() {

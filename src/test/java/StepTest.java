@@ -4,6 +4,7 @@ public final class StepTest {
         wrongCounts();
         howMany();
         order();
+        allSlotsInOrder();
         orderIsKeptBetweenCalls();
         ending();
         writing();
@@ -25,6 +26,7 @@ public final class StepTest {
         writingBehind();
         writingBehindInAPair();
         failuresEndTheCall();
+        stopsDoNotEndTheCall();
         statesAreComparedBehindEachStep();
         Check.end();
     }
@@ -83,6 +85,19 @@ public final class StepTest {
         Check.same("slot 6", y.process(6, 2), 1);
         Check.same("slot 7 alone", y.step(4), 4);
         Check.showed("slot 7", y, 'y', 'y');
+    }
+
+    private static void allSlotsInOrder() {
+        JobTerminal x = new JobTerminal();
+        Check.write(x, 0, 8, 7);
+        for (int i = 0; i < 4; i++) {
+            x.launch(0, 0, true);
+        }
+        for (int slot = 0; slot < 8; slot++) {
+            Check.same("line of slot " + slot, x.process(slot, 2), 0);
+            Check.same("step", x.step(1), 1);
+            Check.same("line of slot " + slot, x.process(slot, 2), 1);
+        }
     }
 
     private static void orderIsKeptBetweenCalls() {
@@ -204,6 +219,14 @@ public final class StepTest {
         Check.same("nothing waits", x.process(0, 4), 0);
         x.step(1);
         Check.same("code", x.process(0, 8), 5);
+        for (int signal : new int[] {0, 1, 2, 4, 7, 8, 9}) {
+            JobTerminal z = running(true, 6, 1 << signal, 9, signal, 6, 919 - (1 << signal), 4, 3);
+            z.step(2);
+            Check.same("pending", z.process(0, 4), 1 << signal);
+            z.step(1);
+            Check.slot("acts when it is blocked no more", z, 0, signal < 5 ? 3 : 2, 0, 3, 0, 0,
+                    919 - (1 << signal), 0, 0, signal < 5 ? 128 + signal : 0);
+        }
         JobTerminal y = running(false, 6, 919, 9, 4, 9, 7, 9, 0, 6, 1, 0, 5);
         y.step(9);
         Check.slot("4 acts before 7", y, 0, 3, 0, 5, 0, 128 + 1, 1, 0, 0, 132);
@@ -350,6 +373,15 @@ public final class StepTest {
         Check.slot("failed", x, 0, 1, 0, 2, -2);
         Check.same("the pipe stays", x.held(2), 4);
         Check.slot("ended", x, 1, 3, 0, 3, 1);
+
+        // a register of 0 is written, and waits for room too
+        JobTerminal z = new JobTerminal();
+        Check.write(z, 0, 3, 0, 4, 0);
+        Check.write(z, 1, 8, 7);
+        z.launch(0, 1, true);
+        Check.same("two steps for each of four, and a nap", z.step(64), 9);
+        Check.slot("it waits", z, 0, 1, 0, 0, 0);
+        Check.same("held", z.held(2), 4);
 
         // a stopped second process has not ended
         JobTerminal y = new JobTerminal();
@@ -505,6 +537,20 @@ public final class StepTest {
         Check.same("then the other, a jump", x.step(2), 2);
         Check.same("and again", x.step(64), 2);
         Check.same("code", x.process(1, 8), 0);
+    }
+
+    private static void stopsDoNotEndTheCall() {
+        JobTerminal x = new JobTerminal();
+        Check.write(x, 0, 2, 0);
+        Check.write(x, 1, 1, 65);
+        Check.write(x, 2, 4, 0);
+        x.flags(63);
+        x.launch(0, -1, true);
+        x.launch(1, -1, true);
+        x.launch(2, -1, true);
+        Check.same("8 and 9 are sent, and the third goes on", x.step(20), 20);
+        Check.same("stopped by 8", x.job(0), 2);
+        Check.same("stopped by 9", x.job(1), 2);
     }
 
     private static void statesAreComparedBehindEachStep() {
