@@ -939,8 +939,9 @@ public final class JobTerminal {
             if (k < 0 || k >= KEPT || k >= total) {
                 return NONE;
             }
-            int place = next - 1 - k;
-            return codes[place < 0 ? place + KEPT : place];
+            int behind = next - 1 - k;
+            int place = behind < 0 ? behind + KEPT : behind;
+            return place >= 0 && place < KEPT ? codes[place] : NONE;
         }
     }
 
@@ -959,8 +960,9 @@ public final class JobTerminal {
         }
 
         void putLast(int number) {
-            if (count < numbers.length) {
-                numbers[placeOf(count)] = number;
+            int place = placeOf(count);
+            if (count < numbers.length && isPlace(place)) {
+                numbers[place] = number;
                 count++;
             }
         }
@@ -970,7 +972,7 @@ public final class JobTerminal {
             if (count == 0) {
                 return NONE;
             }
-            int taken = numbers[oldest];
+            int taken = numberAt(oldest);
             oldest = placeOf(1);
             count--;
             return taken;
@@ -982,11 +984,19 @@ public final class JobTerminal {
                 return NONE;
             }
             count--;
-            return numbers[placeOf(count)];
+            return numberAt(placeOf(count));
         }
 
         void clear() {
             count = 0;
+        }
+
+        private int numberAt(int place) {
+            return isPlace(place) ? numbers[place] : NONE;
+        }
+
+        private boolean isPlace(int place) {
+            return place >= 0 && place < numbers.length;
         }
 
         private int placeOf(int age) {

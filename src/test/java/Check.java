@@ -4,15 +4,21 @@ import java.util.concurrent.Callable;
 final class Check {
     private static int wrong = 0;
     private static int looked = 0;
+    private static String sentence = "";
 
     private Check() {
+    }
+
+    /** The document's sentence that the next looks are about; it is printed with a wrong answer. */
+    static void about(String words) {
+        sentence = "[" + words + "] ";
     }
 
     static void same(String what, Object got, Object due) {
         looked++;
         if (!got.equals(due)) {
             wrong++;
-            System.out.println(what + " answered " + got + ", due is " + due);
+            System.out.println(sentence + what + " answered " + got + ", due is " + due);
         }
     }
 
@@ -28,7 +34,7 @@ final class Check {
             got = e.toString();
         }
         wrong++;
-        System.out.println(what + " gave " + got + ", due is " + due.getName());
+        System.out.println(sentence + what + " gave " + got + ", due is " + due.getName());
     }
 
     /** The codes that were shown last, the oldest of them first. */
@@ -50,6 +56,13 @@ final class Check {
         for (int i = 0; i + 1 < opsAndNumbers.length; i += 2) {
             same("program(" + p + ", " + i / 2 + ", ..)",
                     x.program(p, i / 2, opsAndNumbers[i], opsAndNumbers[i + 1]), true);
+        }
+    }
+
+    /** The same key so many times, each of which must be taken. */
+    static void typeTimes(JobTerminal x, int times, int code) {
+        for (int i = 0; i < times; i++) {
+            type(x, code);
         }
     }
 
